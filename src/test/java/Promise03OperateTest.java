@@ -38,7 +38,7 @@ public final class Promise03OperateTest {
         Check.due(call + ": y", object.get(2), y);
     }
 
-    private static long expected(int op, long x, long y) {
+    static long expected(int op, long x, long y) {
         BigInteger sx = BigInteger.valueOf(x);
         BigInteger sy = BigInteger.valueOf(y);
         BigInteger ux = Check.unsigned(x);
